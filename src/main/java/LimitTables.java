@@ -854,8 +854,9 @@ public final class LimitTables {
             putIfFinite(at, base + (base - values[near]) / divisor);
         }
 
+        /** Asked so that a NaN is too small. */
         private boolean isTooSmall(double divisor) {
-            return Numbers.sizeOf(divisor) <= guard;
+            return !(Numbers.sizeOf(divisor) > guard);
         }
 
         /** Puts an entry whose divisor is too small; the value is that of a bridged one. */

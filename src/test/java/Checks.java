@@ -28,6 +28,10 @@ final class Checks {
         }
     }
 
+    int made() {
+        return passed + failed;
+    }
+
     boolean anyFailed() {
         return failed > 0;
     }
